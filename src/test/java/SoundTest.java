@@ -1,0 +1,102 @@
+import java.lang.reflect.Field;
+import java.util.List;
+
+/** Promise 55: isSound is true in play, and false of an object that was spoilt from outside. */
+public final class SoundTest {
+
+    private interface Spoiling {
+        void of(Lorewick x) throws ReflectiveOperationException;
+    }
+
+    public static void main(String[] args) throws ReflectiveOperationException {
+        sound();
+        spoilt("coins", x -> add(get(x, "shop"), "purse", 1));
+        spoilt("earned coins", x -> add(get(x, "shop"), "earned", 1));
+        spoilt("the room at the node 0", x -> add(state(x, 0), "room", 1));
+        spoilt("the room at the last node", x -> add(state(x, 6), "room", 1));
+        spoilt("a place", x -> ((int[]) get(state(x, 2), "places"))[2] = 0);
+        spoilt("fuel", x -> ((int[]) get(state(x, 3), "fuels"))[0]++);
+        spoilt("a lamp lit", x -> ((boolean[]) get(state(x, 1), "on"))[0] = true);
+        spoilt("a box opened at the node 0", x -> ((boolean[]) get(state(x, 0), "on"))[1] = true);
+        spoilt("a word that was not shown", x -> unlearn(x));
+        spoilt("a hint sold twice on a path", x -> sellTwice(x));
+        Check.end();
+    }
+
+    /** Nodes: 1 take lamp, 2 take key, 3 light lamp, 4 buy 0, 5 drop lamp, 6 merge 1, 7 read 0. */
+    private static Lorewick played() {
+        Lorewick x = CommandTest.house();
+        x.hint(3);
+        x.teach(0, 7);
+        x.earn(5);
+        x.begin(0);
+        Check.sayAll(x, "take lamp,take key,light lamp");
+        x.buy(0);
+        Check.say(x, "drop lamp");
+        x.merge(1);
+        x.read(0);
+        return x;
+    }
+
+    private static void sound() {
+        Lorewick x = new Lorewick();
+        Check.due(55, "at first", true, () -> x.isSound());
+        x.earn(9);
+        Check.due(55, "earned", true, () -> x.isSound());
+        Lorewick y = played();
+        Check.due(55, "played", true, () -> y.isSound());
+        Check.due(55, "asked again", true, () -> y.isSound());
+        y.undo();
+        y.undo();
+        y.undo();
+        y.undo();
+        Check.say(y, "wait");
+        y.buy(0);
+        Check.due(55, "sold on two branches", true, () -> y.isSound());
+        Check.say(y, "drop owl");
+        Check.due(55, "refused", true, () -> y.isSound());
+    }
+
+    private static void spoilt(String what, Spoiling spoiling) throws ReflectiveOperationException {
+        Lorewick x = played();
+        spoiling.of(x);
+        Check.due(55, "spoilt: " + what, false, () -> x.isSound());
+    }
+
+    private static void unlearn(Lorewick x) throws ReflectiveOperationException {
+        for (int i = 0; i < 2; i++) {
+            field(node(x, i), "shown").setLong(node(x, i), 0L);
+        }
+    }
+
+    @SuppressWarnings("unchecked")
+    private static void sellTwice(Lorewick x) throws ReflectiveOperationException {
+        Object shop = get(x, "shop");
+        List<Object> sold = (List<Object>) get(shop, "sold");
+        sold.add(sold.get(0));
+        add(shop, "purse", -(int) get(sold.get(0), "coins"));
+    }
+
+    private static Object node(Lorewick x, int number) throws ReflectiveOperationException {
+        return ((List<?>) get(get(x, "tree"), "list")).get(number);
+    }
+
+    private static Object state(Lorewick x, int number) throws ReflectiveOperationException {
+        return get(node(x, number), "state");
+    }
+
+    private static Field field(Object owner, String name) throws ReflectiveOperationException {
+        Field field = owner.getClass().getDeclaredField(name);
+        field.setAccessible(true);
+        return field;
+    }
+
+    private static Object get(Object owner, String name) throws ReflectiveOperationException {
+        return field(owner, name).get(owner);
+    }
+
+    private static void add(Object owner, String name, int more) throws ReflectiveOperationException {
+        Field field = field(owner, name);
+        field.setInt(owner, field.getInt(owner) + more);
+    }
+}
