@@ -33,8 +33,16 @@ final class Check {
         try {
             return String.valueOf(call.run());
         } catch (RuntimeException e) {
-            return "throws " + e.getClass().getName();
+            return textOf(e);
         }
+    }
+
+    /** Tells what was thrown, and whether it was thrown by a library or by the machine, not by the class. */
+    static String textOf(Throwable thrown) {
+        StackTraceElement[] calls = thrown.getStackTrace();
+        boolean isOwn = calls.length == 0 || calls[0].getClassName().matches("(Lorewick|Model)(\\$.*)?");
+        boolean isMachine = String.valueOf(thrown.getMessage()).equals("/ by zero");
+        return "throws " + thrown.getClass().getName() + (isOwn && !isMachine ? "" : " by itself");
     }
 
     /** Ends the program, with 1 if anything was wrong. */

@@ -77,7 +77,7 @@ public final class CommandTest {
         for (String text : new String[] {"", " ", "go", "go ", "go x", "go nn", "go north", "go  n", " go n", "go n ", "take",
             "take ", "take  key", " take key", "take key ", "take key key", "put", "put key", "put key in", "put key in ",
             "put key on box", "put key box", "put key in box box", "put  in box", "look ", " look", "look at key", "wait key",
-            "wait ", "wai", "waitt", "n", "buy", "buy key", "read key", "merge key", "start", "start key", "taketh key",
+            "wait ", "wai", "waitt", "n", "buy", "read", "merge", "in", "buy key", "read key", "merge key", "start", "start key", "taketh key",
             "tak key", "drops key", "a b c d e f g h i j k l m n o", "open", "close", "light", "douse", "drop", "key"}) {
             says(x, text, '?');
             due("behind '" + text + "' nothing is typed", 0, () -> x.clear());
@@ -294,25 +294,32 @@ public final class CommandTest {
         says(x, "open case", 'o');
         says(x, "put key in case", 'n');
 
-        Lorewick y = new Lorewick();
-        for (String text : "box,a,b,c,d".split(",")) {
-            Check.word(y, text);
+        fullBox(0);
+        fullBox(2);
+        fullBox(4);
+    }
+
+    /** Four small things, one of them a lamp, and a box with this number. */
+    private static void fullBox(int box) {
+        Lorewick x = new Lorewick();
+        x.room(false);
+        x.room(false);
+        x.exit(0, 'n', 1);
+        String small = "abcd";
+        for (int i = 0, j = 0; i < 5; i++) {
+            Check.word(x, i == box ? "box" : small.substring(j, j + 1));
+            x.thing(i, 0, 1, i == box ? 'b' : j == 0 ? 'l' : 'p');
+            j += i == box ? 0 : 1;
         }
-        y.room(false);
-        y.room(false);
-        y.exit(0, 'n', 1);
-        y.thing(0, 0, 1, 'b');
-        for (int i = 1; i < 5; i++) {
-            y.thing(i, 0, 1, i == 1 ? 'l' : 'p');
-        }
-        y.begin(0);
-        due("ahead", "ooooo", () -> Check.sayAll(y, "open box,take a,take b,take c,take d"));
-        due("three", "ooo", () -> Check.sayAll(y, "put a in box,put b in box,put c in box"));
-        says(y, "put d in box", 'n');
-        says(y, "take b", 'o');
-        says(y, "put d in box", 'o');
-        says(y, "go n", 'o');
-        says(y, "put b in box", 'n');
+        x.begin(0);
+        due("ahead", "ooooo", () -> Check.sayAll(x, "open box,take a,take b,take c,take d"));
+        due("three", "ooo", () -> Check.sayAll(x, "put a in box,put b in box,put c in box"));
+        says(x, "put d in box", 'n');
+        says(x, "take b", 'o');
+        says(x, "put d in box", 'o');
+        due("in the box " + box, 200 + box, () -> x.place(box == 4 ? 3 : 4));
+        says(x, "go n", 'o');
+        says(x, "put b in box", 'n');
     }
 
     private static void lamps() {

@@ -14,6 +14,7 @@ public final class LineTest {
         x.hint(1);
         x.teach(0, 8);
         x.begin(0);
+        Check.due(51, "without asking for the length", 't', () -> x.signOf(1));
         due(x, "start:");
         for (int bad : new int[] {-1, 6, MAX_VALUE, MIN_VALUE}) {
             Check.refused(51, "place " + bad, NO_SUCH, () -> x.signOf(bad));

@@ -288,7 +288,7 @@ public final class ModelTest {
             }
             return "no method";
         } catch (InvocationTargetException e) {
-            return "throws " + e.getCause().getClass().getName();
+            return Check.textOf(e.getCause());
         } catch (IllegalAccessException e) {
             return "no access";
         }

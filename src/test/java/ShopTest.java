@@ -16,6 +16,7 @@ public final class ShopTest {
         price();
         pricesOfShares();
         buy();
+        stateStays();
         buyingRefused();
         buyingBurns();
         owned();
@@ -149,6 +150,24 @@ public final class ShopTest {
         Check.say(x, "wait");
         Check.due(40, "sold again on another branch", 4, () -> x.buy(0));
         Check.due(40, "1 of 4 nodes has shown one", 11, () -> x.coins());
+    }
+
+    /** What is bought or read keeps the state where play is, whatever was tried last. */
+    private static void stateStays() {
+        Lorewick x = begun();
+        long atFirst = x.checksum();
+        Check.sayAll(x, "take lamp,open box");
+        x.undo();
+        x.undo();
+        x.buy(0);
+        Check.due(40, "behind undoing", atFirst, () -> x.checksum());
+        Check.say(x, "take key");
+        long withKey = x.checksum();
+        Check.say(x, "go n");
+        x.undo();
+        x.read(0);
+        Check.due(42, "behind undoing", withKey, () -> x.checksum());
+        Check.due(42, "is sound", true, () -> x.isSound());
     }
 
     private static void buyingRefused() {

@@ -20,6 +20,10 @@ public final class SoundTest {
         spoilt("a box opened at the node 0", x -> ((boolean[]) get(state(x, 0), "on"))[1] = true);
         spoilt("a word that was not shown", x -> unlearn(x));
         spoilt("a hint sold twice on a path", x -> sellTwice(x));
+        Lorewick fresh = CommandTest.begun();
+        Check.due(55, "begun", true, () -> fresh.isSound());
+        add(state(fresh, 0), "room", 1);
+        Check.due(55, "spoilt at the node 0, which is alone", false, () -> fresh.isSound());
         Check.end();
     }
 
