@@ -1205,13 +1205,14 @@ public final class Lorewick {
             throws IndexOutOfBoundsException, IllegalStateException, UnsupportedOperationException {
         Node there = nodeOf(node);
         needPlay();
-        Command command = new Command(Verb.MERGE, node, NONE);
-        needNodeFor(command);
         work.copy(tree.current().state);
         int count = rules.pickUpAsIn(work, there.state);
         if (count == 0) {
             throw new UnsupportedOperationException("none can be taken");
         }
+        Command command = new Command(Verb.MERGE, node, NONE);
+        // Only here, since a merge that takes nothing is not done and needs no node.
+        needNodeFor(command);
         follow(command);
         return count;
     }

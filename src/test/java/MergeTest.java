@@ -16,6 +16,7 @@ public final class MergeTest {
         inTheDark();
         burning();
         fullTree();
+        fullTreeNoneInReach();
         Check.end();
     }
 
@@ -194,14 +195,64 @@ public final class MergeTest {
         for (int i = 4; i < 80; i++) {
             x.read(0);
         }
-        refused("80 nodes", STATE, () -> x.merge(1));
-        refused("80 nodes, none to take", STATE, () -> x.merge(0));
+        refused("80 nodes, the key can be taken", STATE, () -> x.merge(1));
+        refused("80 nodes, none carried there", UNSUPPORTED, () -> x.merge(0));
         refused("80 nodes, no node", INDEX, () -> x.merge(80));
         due("play stays", 79, () -> x.node());
+        due("what is typed and cannot be done needs no node, too", "n", () -> Check.sayAll(x, "drop key"));
         Check.jump(x, "root");
         due("no further node is needed", 1, () -> x.merge(1));
         due("is there", 2, () -> x.node());
+        refused("the key is carried here, too", UNSUPPORTED, () -> x.merge(1));
         x.undo();
-        refused("another node", STATE, () -> x.merge(2));
+        refused("another node, and the key can be taken", STATE, () -> x.merge(2));
+        due("play stays at 0", 0, () -> x.node());
+        due("the key lies still", 0, () -> x.place(2));
+        refused("none can be taken with this one", UNSUPPORTED, () -> x.merge(0));
+        due("still 80", 80, () -> x.nodes());
+    }
+
+    /** What is too heavy, elsewhere or not seen cannot be taken, so that no node is needed for it. */
+    private static void fullTreeNoneInReach() {
+        Lorewick x = CommandTest.begun();
+        Check.sayAll(x, "take key");
+        atRoot(x);
+        Check.sayAll(x, "take lamp,light lamp,go n,take cup");
+        int cup = x.node();
+        atRoot(x);
+        Check.say(x, "go n");
+        Check.name(x, "dark");
+        fill(x);
+        refused("80 nodes, elsewhere", UNSUPPORTED, () -> x.merge(1));
+        Check.jump(x, "dark");
+        refused("80 nodes, dark", UNSUPPORTED, () -> x.merge(cup));
+        Check.jump(x, "root");
+        refused("80 nodes, the lamp", STATE, () -> x.merge(cup));
+        fullTreeTooHeavy();
+    }
+
+    private static void fullTreeTooHeavy() {
+        Lorewick x = new Lorewick();
+        Check.word(x, "tin");
+        Check.word(x, "gem");
+        x.room(false);
+        x.thing(0, 0, 9, 'p');
+        x.thing(1, 0, 4, 'p');
+        x.begin(0);
+        Check.sayAll(x, "take tin");
+        atRoot(x);
+        Check.sayAll(x, "take gem");
+        Check.name(x, "gem");
+        fill(x);
+        refused("80 nodes, too heavy", UNSUPPORTED, () -> x.merge(1));
+        Check.jump(x, "root");
+        refused("80 nodes, not too heavy", STATE, () -> x.merge(1));
+    }
+
+    private static void fill(Lorewick x) {
+        for (int i = x.nodes(); i < 80; i++) {
+            Check.say(x, "wait");
+        }
+        due("80 nodes", 80, () -> x.nodes());
     }
 }

@@ -692,10 +692,11 @@ public final class Model {
 
     public int merge(int node) {
         index(node, tree);
-        state(begun() && (tree.size() < 80 || childBy("merge " + node) >= 0));
+        state(begun());
         State then = stateHere().again();
         int count = takenAsIn(node, then);
         supported(count > 0);
+        state(tree.size() < 80 || childBy("merge " + node) >= 0);
         follow("merge " + node, then, Set.of());
         return count;
     }
