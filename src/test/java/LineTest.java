@@ -11,8 +11,6 @@ public final class LineTest {
         Lorewick x = CommandTest.house();
         Check.refused(50, "not begun", STATE, () -> x.line());
         Check.refused(51, "not begun", STATE, () -> x.signOf(0));
-        x.hint(1);
-        x.teach(0, 8);
         x.begin(0);
         Check.due(51, "without asking for the length", 't', () -> x.signOf(1));
         due(x, "start:");
@@ -35,22 +33,32 @@ public final class LineTest {
         for (String direction : "n,s,d".split(",")) {
             says(x, "go " + direction, "go " + direction + ": lamp");
         }
+        numbered();
+        longest();
+        Check.end();
+    }
+
+    /** What is bought, read or merged is told with its number. */
+    private static void numbered() {
+        Lorewick x = CommandTest.house();
+        x.hint(1);
+        x.teach(0, 8);
+        x.begin(0);
+        says(x, "take lamp", "take lamp: lamp");
         x.buy(0);
         due(x, "buy 0: lamp");
         x.undo();
-        due(x, "go d: lamp");
+        due(x, "take lamp: lamp");
         x.read(0);
         due(x, "read 0: lamp");
         x.undo();
         says(x, "drop lamp", "drop lamp:");
-        x.merge(13);
-        due(x, "merge 13: lamp");
+        x.merge(1);
+        due(x, "merge 1: lamp");
         long length = x.line();
         for (int bad : new int[] {-1, (int) length, MAX_VALUE, MIN_VALUE}) {
             Check.refused(51, "place " + bad, NO_SUCH, () -> x.signOf(bad));
         }
-        longest();
-        Check.end();
     }
 
     private static void says(Lorewick x, String text, String want) {
@@ -65,26 +73,34 @@ public final class LineTest {
 
     /** Words of 8 letters, 12 things, and a hint with two digits. */
     private static void longest() {
-        Lorewick x = new Lorewick();
-        x.room(false);
+        Lorewick x = longNouns();
+        x.buy(11);
+        due(x, "buy 11:");
         StringBuilder nouns = new StringBuilder(":");
         for (int i = 0; i < 12; i++) {
-            String text = "zzzazzz" + (char) ('a' + i);
-            Check.word(x, text);
+            String noun = "zzzazzz" + (char) ('a' + i);
+            Check.say(x, "take " + noun);
+            nouns.append(' ').append(noun);
+        }
+        due(x, "take zzzazzzl" + nouns);
+        Lorewick y = longNouns();
+        Check.sayAll(y, "take zzzazzzb,take zzzazzzl,open zzzazzza");
+        due(y, "open zzzazzza: zzzazzzb zzzazzzl");
+        Check.say(y, "put zzzazzzb in zzzazzza");
+        due(y, "put zzzazzzb in zzzazzza: zzzazzzl");
+    }
+
+    private static Lorewick longNouns() {
+        Lorewick x = new Lorewick();
+        x.room(false);
+        for (int i = 0; i < 12; i++) {
+            Check.word(x, "zzzazzz" + (char) ('a' + i));
             x.thing(i, 0, 1, i == 0 ? 'b' : 'p');
             x.hint(1);
-            nouns.append(' ').append(text);
         }
         Check.word(x, "last");
         x.teach(11, 12);
         x.begin(0);
-        x.buy(11);
-        due(x, "buy 11:");
-        for (int i = 0; i < 12; i++) {
-            Check.say(x, "take zzzazzz" + (char) ('a' + i));
-        }
-        due(x, "take zzzazzzl" + nouns);
-        Check.sayAll(x, "open zzzazzza,put zzzazzzb in zzzazzza");
-        due(x, "put zzzazzzb in zzzazzza" + nouns.toString().replace(" zzzazzzb", ""));
+        return x;
     }
 }

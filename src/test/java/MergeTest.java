@@ -222,7 +222,7 @@ public final class MergeTest {
         atRoot(x);
         Check.say(x, "go n");
         Check.name(x, "dark");
-        fill(x);
+        fill(x, 8);
         refused("80 nodes, elsewhere", UNSUPPORTED, () -> x.merge(1));
         Check.jump(x, "dark");
         refused("80 nodes, dark", UNSUPPORTED, () -> x.merge(cup));
@@ -235,6 +235,7 @@ public final class MergeTest {
         Lorewick x = new Lorewick();
         Check.word(x, "tin");
         Check.word(x, "gem");
+        Check.word(x, "fern");
         x.room(false);
         x.thing(0, 0, 9, 'p');
         x.thing(1, 0, 4, 'p');
@@ -243,15 +244,19 @@ public final class MergeTest {
         atRoot(x);
         Check.sayAll(x, "take gem");
         Check.name(x, "gem");
-        fill(x);
+        fill(x, 2);
         refused("80 nodes, too heavy", UNSUPPORTED, () -> x.merge(1));
         Check.jump(x, "root");
         refused("80 nodes, not too heavy", STATE, () -> x.merge(1));
     }
 
-    private static void fill(Lorewick x) {
+    /** Fills the tree by buying and reading a hint of a word that is not known. */
+    private static void fill(Lorewick x, int word) {
+        int hint = x.hint(1);
+        x.teach(hint, word);
+        x.buy(hint);
         for (int i = x.nodes(); i < 80; i++) {
-            Check.say(x, "wait");
+            x.read(hint);
         }
         due("80 nodes", 80, () -> x.nodes());
     }

@@ -20,6 +20,7 @@ public final class SoundTest {
         spoilt("a box opened at the node 0", x -> ((boolean[]) get(state(x, 0), "on"))[1] = true);
         spoilt("a word that was not shown", x -> unlearn(x));
         spoilt("a hint sold twice on a path", x -> sellTwice(x));
+        commandsThatChangeNothing();
         Lorewick fresh = CommandTest.begun();
         Check.due(55, "begun", true, () -> fresh.isSound());
         add(state(fresh, 0), "room", 1);
@@ -65,6 +66,27 @@ public final class SoundTest {
         Lorewick x = played();
         spoiling.of(x);
         Check.due(55, "spoilt: " + what, false, () -> x.isSound());
+    }
+
+    /** What was not known, or cannot be done, is told also where the state would be the same. */
+    private static void commandsThatChangeNothing() throws ReflectiveOperationException {
+        Lorewick x = CommandTest.begun();
+        Check.say(x, "look key");
+        unlearn(x);
+        Check.due(55, "looked at what was not known", false, () -> x.isSound());
+        Lorewick y = CommandTest.begun();
+        Check.sayAll(y, "take key,wait");
+        Check.due(55, "ahead of it", true, () -> y.isSound());
+        field(node(y, 2), "command").set(node(y, 2), get(node(y, 1), "command"));
+        Check.due(55, "taken twice", false, () -> y.isSound());
+        Lorewick z = CommandTest.begun();
+        Check.say(z, "take key");
+        z.undo();
+        z.merge(1);
+        Check.say(z, "wait");
+        Check.due(55, "ahead of this", true, () -> z.isSound());
+        field(node(z, 3), "command").set(node(z, 3), get(node(z, 2), "command"));
+        Check.due(55, "merged twice", false, () -> z.isSound());
     }
 
     private static void unlearn(Lorewick x) throws ReflectiveOperationException {
