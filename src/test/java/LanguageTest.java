@@ -41,7 +41,7 @@ import javax.tools.StandardJavaFileManager;
 import javax.tools.ToolProvider;
 
 /**
- * LANGUAGE.md: what the compiler's tree of Lorewick.java tells of its rules 1 to 11; the face stands in FaceTest.
+ * LANGUAGE.md: what the compiler's tree of Lorewick.java tells of its rules 1 to 11, but 7; the face stands in FaceTest.
  * Stricter than the rules where the class does without what they allow: while and do, try, recursion, and calls
  * of the library that it has no need of. What the class comes to need may be let in here, if the rules do.
  */
